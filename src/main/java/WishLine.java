@@ -1161,7 +1161,7 @@ public final class WishLine {
         }
 
         /** The acts are listed from the least on, so the first case found is the least of its length. */
-        boolean search(int level, int length) {
+        private boolean search(int level, int length) {
             if (level >= length || level >= MAX_DEPTH) {
                 return false;
             }
@@ -1206,14 +1206,14 @@ public final class WishLine {
             }
         }
 
-        void begin(int body) {
+        private void begin(int body) {
             if (ran < KEPT_BODIES) {
                 numbers[ran] = body;
                 ran++;
             }
         }
 
-        int hear(int kind, int x) {
+        private int hear(int kind, int x) {
             switch (kind) {
                 case KIND_SHUT:
                     begin(30);
@@ -1227,7 +1227,7 @@ public final class WishLine {
             }
         }
 
-        int turn(int kind, int x) {
+        private int turn(int kind, int x) {
             switch (kind) {
                 case KIND_ONWARD:
                     begin(20);
@@ -1244,7 +1244,7 @@ public final class WishLine {
             }
         }
 
-        int pay(int kind, int x) {
+        private int pay(int kind, int x) {
             switch (kind) {
                 case KIND_BACK:
                     begin(60);
@@ -1258,7 +1258,7 @@ public final class WishLine {
             }
         }
 
-        int end(int kind, int x) {
+        private int end(int kind, int x) {
             switch (kind) {
                 case KIND_SHUT:
                 case KIND_HIDDEN:

@@ -30,6 +30,8 @@ public final class CallsTest {
         manyActs();
         telling();
         callsBackAreDialledIn();
+        likeRanksAfterTicks();
+        theLastTick();
         check.end();
     }
 
@@ -499,6 +501,29 @@ public final class CallsTest {
         x.down(3);
         x.dial(2, 3);
         check.due("a shut hides no one, on a free line", x.tells(3, 3), 1);
+    }
+
+    private static void likeRanksAfterTicks() {
+        WishLine x = Check.withLines(4);
+        x.wish(1, ONWARD, 2, 2, 3);
+        x.wish(1, ONWARD, 2, 3, 3);
+        x.dial(0, 1);
+        x.tick();
+        dueActed(x, 0, 0);
+        due(x, 0, 0, 0, 0, 2, 4, -1, 0, 1);
+    }
+
+    private static void theLastTick() {
+        WishLine x = Check.withLines(2);
+        x.dial(0, 1);
+        x.take(1);
+        for (int i = 1; i < 1000; i++) {
+            x.tick();
+        }
+        check.done(x, "the 1000th tick()", x.tick(), 1000);
+        check.refused(x, "the 1001st tick()", x.tick(), 2);
+        check.due("count(3)", x.count(3), 1000);
+        check.due("lineTold(0, 2)", x.lineTold(0, 2), 1000);
     }
 
     private static void callsBackAreDialledIn() {

@@ -35,8 +35,15 @@ public final class HostTest {
         x.sheet(1, 1, 3);
         x.cell(1, 2, 9);
         check.done(x, "forge(2, 2, 1)", x.forge(2, 2, 1), 9);
+        x.cell(1, 0, 8);
         x.sheet(1, 1, 4);
+        check.done(x, "forge(2, 0, 1) of a new one", x.forge(2, 0, 1), 0);
         check.done(x, "forge(2, 2, 1) of a new one", x.forge(2, 2, 1), 0);
+        x.sheet(3, 1, 40);
+        x.cell(3, 39, 7);
+        check.done(x, "forge(2, 39, 3)", x.forge(2, 39, 3), 7);
+        x.sheet(3, 1, 40);
+        check.done(x, "forge(2, 39, 3) of a new one", x.forge(2, 39, 3), 0);
     }
 
     private static void cells() {
@@ -235,6 +242,10 @@ public final class HostTest {
 
     private static void forgeRefused() {
         WishLine x = new WishLine();
+        check.done(x, "forge(1, 5, 100)", x.forge(1, 5, 100), 5);
+        check.done(x, "forge(1, 5, -100)", x.forge(1, 5, -100), 5);
+        check.done(x, "forge(5, 100, 0)", x.forge(5, 100, 0), 10);
+        check.done(x, "forge(5, -100, 0)", x.forge(5, -100, 0), -10);
         check.refused(x, "forge(7, 0, 0)", x.forge(7, 0, 0), 1);
         check.refused(x, "forge(-1, 0, 0)", x.forge(-1, 0, 0), 1);
         for (int what = 0; what < 7; what++) {

@@ -8,6 +8,10 @@ public final class ImageTest {
         someIsNotKept();
         tenTimes();
         aLaterImage();
+        actsOfAnotherTurn();
+        callsAgain();
+        backsAreKept();
+        fullHouse();
         check.end();
     }
 
@@ -92,6 +96,103 @@ public final class ImageTest {
         check.refused(x, "the 11th restore()", x.restore(), 2);
         check.due("count(3)", x.count(3), 3);
         check.done(x, "image()", x.image(), 1);
+    }
+
+    /** What acted behind the image must not shine through when another wish acts there. */
+    private static void actsOfAnotherTurn() {
+        WishLine x = Check.withLines(4);
+        x.wish(3, 0, 0, 0, 0);
+        x.wish(1, 1, 0, 2, 3);
+        x.wish(1, 1, 1, 3, 3);
+        x.dial(0, 1);
+        x.image();
+        x.tick();
+        check.due("acted(0, 0)", x.acted(0, 0), 1);
+        x.restore();
+        check.due("call(0, 7)", x.call(0, 7), 0);
+        x.on(1, false);
+        x.tick();
+        check.due("acted(0, 0) of the other", x.acted(0, 0), 2);
+        check.due("row(0, 1)", x.row(0, 1), 3);
+        check.due("piece(0, 1)", x.piece(0, 1), 1);
+    }
+
+    /** A call behind restore() is as new, whatever one of its number was before. */
+    private static void callsAgain() {
+        WishLine x = Check.withLines(4);
+        x.wish(1, 1, 0, 2, 0);
+        x.wish(2, 1, 0, 3, 3);
+        x.image();
+        x.dial(0, 1);
+        x.tick();
+        x.tick();
+        x.down(0);
+        check.due("call(0, 7)", x.call(0, 7), 2);
+        x.restore();
+        check.due("count(2)", x.count(2), 0);
+        check.due("call(0, 0)", x.call(0, 0), -1);
+        x.on(1, false);
+        x.dial(3, 3);
+        int[] want = {3, 3, 3, 1, 0, -1, 0, 0};
+        for (int what = 0; what < 8; what++) {
+            check.due("call(0, " + what + ") again", x.call(0, what), want[what]);
+        }
+        check.due("row(0, 0)", x.row(0, 0), 3);
+        check.due("row(0, 1)", x.row(0, 1), -1);
+        check.due("acted(0, 0)", x.acted(0, 0), -1);
+    }
+
+    private static void backsAreKept() {
+        WishLine x = Check.withLines(4);
+        x.wish(0, 5, 0, 0, 0);
+        x.dial(2, 3);
+        x.dial(0, 2);
+        x.dial(0, 3);
+        x.image();
+        x.down(2);
+        x.tick();
+        x.down(0);
+        x.dial(0, 0);
+        check.due("count(4)", x.count(4), 2);
+        check.due("backs(0, 1)", x.backs(0, 1), 3);
+        x.restore();
+        int[] want = {0, 2, 0, 3};
+        check.due("count(4)", x.count(4), 2);
+        for (int i = 0; i < 4; i++) {
+            check.due("backs(" + i / 2 + ", " + i % 2 + ")", x.backs(i / 2, i % 2), want[i]);
+        }
+    }
+
+    /** All rooms are full: every call still answers. */
+    private static void fullHouse() {
+        WishLine x = Check.withLines(8);
+        for (int i = 0; i < 24; i++) {
+            x.wish(i % 8, i < 8 ? 5 : i < 16 ? 6 : 7, 9, (i + 1) % 8, 0);
+        }
+        x.dial(7, 6);
+        x.take(6);
+        for (int i = 0; i < 59; i++) {
+            x.dial(i % 6, i % 12 < 6 ? 6 : 7);
+        }
+        check.due("count(1)", x.count(1), 24);
+        check.due("count(2)", x.count(2), 60);
+        check.due("count(4)", x.count(4), 8);
+        check.refused(x, "dial(0, 1)", x.dial(0, 1), 2);
+        int[] before = AllAnswers.of(x);
+        x.image();
+        x.tick();
+        x.down(7);
+        x.tick();
+        check.due("count(4) with no room for calls", x.count(4), 8);
+        check.done(x, "restore()", x.restore(), 0);
+        int[] then = AllAnswers.of(x);
+        for (int i = 0; i < before.length; i++) {
+            check.due("answer " + i + " of a full house", then[i], before[i]);
+        }
+        check.done(x, "judge(0, 0, 7, 193, 3)", x.judge(0, 0, 7, 193, 3), 2);
+        check.due("alone(0, 0, 7, 193, 3)", x.alone(0, 0, 7, 193, 3), -1);
+        check.due("peace(23, 2, 0, 7, 193, 3)", x.peace(23, 2, 0, 7, 193, 3), -1);
+        check.done(x, "act(23, 2, 10)", x.act(23, 2, 10), 2);
     }
 
     private static void aLaterImage() {

@@ -257,6 +257,8 @@ public final class JudgeTest {
         y.wish(1, SHUT, 6, 0, 3);
         y.wish(1, ONWARD, 0, 2, 0);
         check.due("peace behind a like rank", y.peace(1, 2, 0, 2, 3, 3), 6);
+        y.rank(0, 9);
+        check.due("peace at the last rank", y.peace(1, 2, 0, 2, 3, 3), 9);
         WishLine z = Check.withLines(4);
         z.wish(1, ONWARD, 3, 2, 0);
         z.wish(1, ONWARD, 5, 3, 0);
