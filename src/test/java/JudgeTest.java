@@ -240,6 +240,11 @@ public final class JudgeTest {
         v.wish(1, SHARED, 0, 1, 0);
         v.wish(1, 0, 0, 1, 0);
         check.due("alone of other kinds", v.alone(2, 0, 1, 3, 1), -1);
+        WishLine u = Check.withLines(3);
+        for (int i = 0; i < 24; i++) {
+            u.wish(1, i < 23 ? SHUT : ONWARD, 0, i < 23 ? 0 : 2, i < 23 ? 3 : 0);
+        }
+        check.due("alone of the last of 24", u.alone(2, 0, 2, 3, 1), 23);
     }
 
     private static void peace() {
