@@ -1,54 +1,117 @@
 import java.util.ArrayList;
 import java.util.List;
+import java.util.function.Supplier;
+import java.util.function.ToIntFunction;
 
-/**
- * The answers to all questions of the state (but sheets, the case and the trace). These are more
- * calls than the document promises for one object; the tests rely on it that questions change nothing.
- */
+/** The answers to all questions of the state; those of the case and the trace stand behind the others. */
 final class AllAnswers {
+    // An object is promised 512 calls; what makes it has the rest.
+    private static final int ASKED_OF_ONE = 350;
+
+    private static final List<String> NAMES = new ArrayList<>();
+    private static final List<ToIntFunction<WishLine>> QUESTIONS = new ArrayList<>();
+    private static final int OF_THE_HOUSE;
+
+    static {
+        for (int i = 0; i <= 5; i++) {
+            int what = i;
+            add("count(" + what + ")", x -> x.count(what));
+        }
+        wishes();
+        lines();
+        for (int call = 0; call < 61; call++) {
+            ofCall(call);
+        }
+        for (int k = 0; k < 18; k++) {
+            int i = k / 2;
+            int what = k % 2;
+            add("backs(" + i + ", " + what + ")", x -> x.backs(i, what));
+        }
+        OF_THE_HOUSE = QUESTIONS.size();
+        caseAndTrace();
+    }
+
     private AllAnswers() {
     }
 
-    static int[] of(WishLine x) {
-        List<Integer> all = new ArrayList<>();
-        for (int what = 0; what <= 5; what++) {
-            all.add(x.count(what));
-        }
-        for (int wish = 0; wish < 25; wish++) {
-            for (int what = 0; what <= 6; what++) {
-                all.add(x.wishTold(wish, what));
+    private static void add(String name, ToIntFunction<WishLine> question) {
+        NAMES.add(name);
+        QUESTIONS.add(question);
+    }
+
+    private static void wishes() {
+        for (int i = 0; i < 25; i++) {
+            for (int k = 0; k <= 6; k++) {
+                int wish = i;
+                int what = k;
+                add("wishTold(" + wish + ", " + what + ")", x -> x.wishTold(wish, what));
             }
         }
-        for (int line = 0; line < 9; line++) {
-            for (int what = 0; what < 30; what++) {
-                all.add(x.lineTold(line, what));
-            }
-        }
-        for (int call = 0; call < 61; call++) {
-            ofCall(x, call, all);
-        }
+    }
+
+    private static void lines() {
         for (int i = 0; i < 9; i++) {
-            all.add(x.backs(i, 0));
-            all.add(x.backs(i, 1));
+            for (int k = 0; k < 30; k++) {
+                int line = i;
+                int what = k;
+                add("lineTold(" + line + ", " + what + ")", x -> x.lineTold(line, what));
+            }
         }
-        int[] answers = new int[all.size()];
+    }
+
+    private static void ofCall(int call) {
+        for (int k = 0; k <= 8; k++) {
+            int what = k;
+            add("call(" + call + ", " + what + ")", x -> x.call(call, what));
+        }
+        for (int k = 0; k < 12; k++) {
+            int i = k;
+            add("row(" + call + ", " + i + ")", x -> x.row(call, i));
+            add("piece(" + call + ", " + i + ")", x -> x.piece(call, i));
+            add("acted(" + call + ", " + i + ")", x -> x.acted(call, i));
+        }
+        for (int k = 0; k < 9; k++) {
+            int line = k;
+            add("tells(" + call + ", " + line + ")", x -> x.tells(call, line));
+        }
+    }
+
+    private static void caseAndTrace() {
+        add("count(6)", x -> x.count(6));
+        add("count(7)", x -> x.count(7));
+        for (int k = 0; k < 4; k++) {
+            int i = k;
+            add("actOf(" + i + ")", x -> x.actOf(i));
+        }
+        for (int k = 0; k < 52; k++) {
+            int i = k;
+            add("trace(" + i + ")", x -> x.trace(i));
+        }
+    }
+
+    static String question(int i) {
+        return NAMES.get(i);
+    }
+
+    /** Of one object, without the case and the trace; more calls than one object is promised. */
+    static int[] of(WishLine x) {
+        int[] answers = new int[OF_THE_HOUSE];
         for (int i = 0; i < answers.length; i++) {
-            answers[i] = all.get(i);
+            answers[i] = QUESTIONS.get(i).applyAsInt(x);
         }
         return answers;
     }
 
-    private static void ofCall(WishLine x, int call, List<Integer> all) {
-        for (int what = 0; what <= 8; what++) {
-            all.add(x.call(call, what));
+    /** Of objects that are all made in one way, none of which is asked more than it is promised. */
+    static int[] of(Supplier<WishLine> made) {
+        int[] answers = new int[QUESTIONS.size()];
+        WishLine x = made.get();
+        for (int i = 0; i < answers.length; i++) {
+            if (i % ASKED_OF_ONE == 0) {
+                x = made.get();
+            }
+            answers[i] = QUESTIONS.get(i).applyAsInt(x);
         }
-        for (int i = 0; i < 12; i++) {
-            all.add(x.row(call, i));
-            all.add(x.piece(call, i));
-            all.add(x.acted(call, i));
-        }
-        for (int line = 0; line < 9; line++) {
-            all.add(x.tells(call, line));
-        }
+        return answers;
     }
 }

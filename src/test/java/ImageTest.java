@@ -50,17 +50,13 @@ public final class ImageTest {
         x.tick();
         check.done(x, "restore()", x.restore(), 2);
         int[] then = AllAnswers.of(x);
-        for (int i = 0; i < before.length; i++) {
-            check.due("answer " + i + " behind restore()", then[i], before[i]);
-        }
+        check.dueSame("behind restore()", then, before);
         x.down(0);
         x.tick();
         x.tick();
         check.done(x, "restore() again", x.restore(), 2);
         int[] again = AllAnswers.of(x);
-        for (int i = 0; i < before.length; i++) {
-            check.due("answer " + i + " behind restore() again", again[i], before[i]);
-        }
+        check.dueSame("behind restore() again", again, before);
         check.done(x, "down(0)", x.down(0), 0);
         check.due("call(1, 1)", x.call(1, 1), 0);
         check.done(x, "wish()", x.wish(3, 0, 0, 0, 0), 3);
@@ -186,9 +182,7 @@ public final class ImageTest {
         check.due("count(4) with no room for calls", x.count(4), 8);
         check.done(x, "restore()", x.restore(), 0);
         int[] then = AllAnswers.of(x);
-        for (int i = 0; i < before.length; i++) {
-            check.due("answer " + i + " of a full house", then[i], before[i]);
-        }
+        check.dueSame("of a full house", then, before);
         check.done(x, "judge(0, 0, 7, 193, 3)", x.judge(0, 0, 7, 193, 3), 2);
         check.due("alone(0, 0, 7, 193, 3)", x.alone(0, 0, 7, 193, 3), -1);
         check.due("peace(23, 2, 0, 7, 193, 3)", x.peace(23, 2, 0, 7, 193, 3), -1);
