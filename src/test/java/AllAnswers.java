@@ -3,14 +3,15 @@ import java.util.List;
 import java.util.function.Supplier;
 import java.util.function.ToIntFunction;
 
-/** The answers to all questions of the state; those of the case and the trace stand behind the others. */
+/** The answers to all questions, and what else shows the state: sheets, the image and how often it was restored. */
 final class AllAnswers {
-    // An object is promised 512 calls; what makes it has the rest.
-    private static final int ASKED_OF_ONE = 350;
+    // An object is promised 512 calls: some questions take two, and what makes it has the rest.
+    private static final int ASKED_OF_ONE = 180;
 
     private static final List<String> NAMES = new ArrayList<>();
     private static final List<ToIntFunction<WishLine>> QUESTIONS = new ArrayList<>();
     private static final int OF_THE_HOUSE;
+    private static final int BUT_THE_IMAGE;
 
     static {
         for (int i = 0; i <= 5; i++) {
@@ -29,6 +30,11 @@ final class AllAnswers {
         }
         OF_THE_HOUSE = QUESTIONS.size();
         caseAndTrace();
+        sheets();
+        BUT_THE_IMAGE = QUESTIONS.size();
+        for (int i = 0; i < 11; i++) {
+            add("restore()", x -> x.restore() * 100 + x.status());
+        }
     }
 
     private AllAnswers() {
@@ -89,11 +95,31 @@ final class AllAnswers {
         }
     }
 
+    /** Shorts one by one, bytes by sums, and ints by the wishes that they tell. */
+    private static void sheets() {
+        for (int k = 0; k < 4 * 41; k++) {
+            int sheet = k / 41;
+            int place = k % 41;
+            add("forge(2, " + place + ", " + sheet + ")", x -> x.forge(2, place, sheet) * 100 + x.status());
+        }
+        for (int k = 0; k < 4 * 4; k++) {
+            int sheet = k / 4;
+            int n = k % 4;
+            add("forge(3, " + n + ", " + sheet + ")", x -> x.forge(3, n, sheet) * 100 + x.status());
+        }
+        for (int k = 0; k < 4 * 3; k++) {
+            int sheet = k / 3;
+            int sort = k % 3;
+            add("order(" + sheet + ", " + sort + ", 0)", x -> x.order(sheet, sort, 0) * 100 + x.status());
+            add("wishTold of the last, 2", x -> x.wishTold(x.count(1) - 1, 2));
+        }
+    }
+
     static String question(int i) {
         return NAMES.get(i);
     }
 
-    /** Of one object, without the case and the trace; more calls than one object is promised. */
+    /** Of one object, without case, trace, sheets and image; more calls than one object is promised. */
     static int[] of(WishLine x) {
         int[] answers = new int[OF_THE_HOUSE];
         for (int i = 0; i < answers.length; i++) {
@@ -102,12 +128,20 @@ final class AllAnswers {
         return answers;
     }
 
-    /** Of objects that are all made in one way, none of which is asked more than it is promised. */
+    /** Of objects that are all made in one way, none of which is asked more than it is promised; not of the image. */
     static int[] of(Supplier<WishLine> made) {
-        int[] answers = new int[QUESTIONS.size()];
+        return answers(made, BUT_THE_IMAGE);
+    }
+
+    static int[] withImage(Supplier<WishLine> made) {
+        return answers(made, QUESTIONS.size());
+    }
+
+    private static int[] answers(Supplier<WishLine> made, int many) {
+        int[] answers = new int[many];
         WishLine x = made.get();
-        for (int i = 0; i < answers.length; i++) {
-            if (i % ASKED_OF_ONE == 0) {
+        for (int i = 0; i < many; i++) {
+            if (i % ASKED_OF_ONE == 0 || i == BUT_THE_IMAGE) {
                 x = made.get();
             }
             answers[i] = QUESTIONS.get(i).applyAsInt(x);
