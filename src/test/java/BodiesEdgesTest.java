@@ -62,7 +62,10 @@ public final class BodiesEdgesTest {
         check.dueTrace(x, trace);
     }
 
-    /** Section 4, "WISH: 10 hear: x + n. 11 turn: hear(x) * 2. 12 pay: x - r. 13 end: turn(x) ^ pay(x)." */
+    /**
+     * Section 4, "BODIES, each with its number:" and "WISH: 10 hear: x + n. 11 turn: hear(x) * 2. 12 pay: x - r.
+     * 13 end: turn(x) ^ pay(x)."
+     */
     private static void bodiesOfAWish() {
         WishLine x = withWish(Kind.WISH);
         due(x, HEAR, 10, 15, 10);
@@ -154,14 +157,20 @@ public final class BodiesEdgesTest {
         due(x, TURN, MAX, 14, 20, 11, 10);
     }
 
-    /** Section 4, "with a number x (32 bits, wrapping)": of a shut, whose end() goes from the greatest number to the least. */
+    /**
+     * Section 4, "with a number x (32 bits, wrapping)": of a shut, whose end() goes from the greatest number to
+     * the least.
+     */
     private static void shutWraps() {
         WishLine x = withWish(Kind.SHUT);
         due(x, HEAR, MAX, MIN + 12, 30, 10);
         due(x, END, MAX, MAX - 28, 31, 13, 11, 30, 10, 12);
     }
 
-    /** Section 4, "with a number x (32 bits, wrapping)": of a hidden, whose turn() goes from the least number to a great one. */
+    /**
+     * Section 4, "with a number x (32 bits, wrapping)": of a hidden, whose turn() goes from the least number to a
+     * great one.
+     */
     private static void hiddenWraps() {
         WishLine x = withWish(Kind.HIDDEN);
         due(x, HEAR, MAX, 16, 40, 30, 10, 12);
@@ -250,7 +259,10 @@ public final class BodiesEdgesTest {
         check.due("trace(0) of turn()", y.trace(0), 11);
     }
 
-    /** Section 4, "super.hear(..): so from the KIND above the body's on.": but what the body above calls without super is the wish's own. */
+    /**
+     * Section 4, "super.hear(..): so from the KIND above the body's on.": but what the body above calls without
+     * super is the wish's own.
+     */
     private static void ownKindIsAskedAgain() {
         WishLine x = withWish(Kind.HIDDEN);
         due(x, TURN, 10, 52, 41, 11, 40, 30, 10, 12);
@@ -270,7 +282,10 @@ public final class BodiesEdgesTest {
         check.dueTrace(y, 50, 12, 13, 11, 10, 12);
     }
 
-    /** Section 4, "THE TRACE: the numbers of the bodies that ran in the latest act()": nothing is left of a longer one before. */
+    /**
+     * Section 4, "THE TRACE: the numbers of the bodies that ran in the latest act()": nothing is left of a longer
+     * one before.
+     */
     private static void traceOfTheLatest() {
         WishLine x = withWish(Kind.HIDDEN);
         x.act(WISH, END, 10);
@@ -294,7 +309,10 @@ public final class BodiesEdgesTest {
         }
     }
 
-    /** Promise 25, act: "An ACT of a WISH with x: what it answers (any number). STATUS 1.": of a number that is no wish. */
+    /**
+     * Promise 25, act: "An ACT of a WISH with x: what it answers (any number). STATUS 1.": of a number that is no
+     * wish.
+     */
     private static void actOfNoWish() {
         WishLine x = withWish(Kind.WISH);
         int[] none = {-1, 6, 23, 24, MAX, MIN};
@@ -313,7 +331,10 @@ public final class BodiesEdgesTest {
         check.refused(x, "act(6, 4, 0)", x.act(6, 4, 0), 1);
     }
 
-    /** Promise 25, act: "what it answers (any number).": also -1, with the status 0, and the least and the greatest number. */
+    /**
+     * Promise 25, act: "what it answers (any number).": also -1, with the status 0, and the least and the greatest
+     * number.
+     */
     private static void anyAnswer() {
         WishLine x = withWish(Kind.WISH);
         due(x, HEAR, -6, -1, 10);

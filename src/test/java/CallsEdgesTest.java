@@ -68,7 +68,10 @@ public final class CallsEdgesTest {
         check.due("lineTold(0, 0)", x.lineTold(0, 0), -1);
     }
 
-    /** Terms, "a STATE: 0 RINGS, 1 SPEAKS, 2 KNOCKS, 3 ENDED; a ROW of LINES to which it went; PIECES, each with a LINE that pays it;" */
+    /**
+     * Terms, "a STATE: 0 RINGS, 1 SPEAKS, 2 KNOCKS, 3 ENDED; a ROW of LINES to which it went; PIECES, each with a
+     * LINE that pays it;"
+     */
     private static void statesOfACall() {
         WishLine x = Check.withLines(3);
         x.wish(1, Kind.WAITING, 0, 0, 0);
@@ -212,7 +215,10 @@ public final class CallsEdgesTest {
         check.due("count(2)", x.count(2), 60);
     }
 
-    /** Promise 6, dial: "STATUS 1, 2, 3 (it is not FREE).": 3, a caller, one that rings, one that speaks, one whose call knocks. */
+    /**
+     * Promise 6, dial: "STATUS 1, 2, 3 (it is not FREE).": 3, a caller, one that rings, one that speaks, one whose
+     * call knocks.
+     */
     private static void dialOfOneThatIsNotFree() {
         WishLine x = Check.withLines(4);
         x.wish(1, Kind.WAITING, 0, 0, 0);
@@ -284,7 +290,10 @@ public final class CallsEdgesTest {
         check.due("call(0, 1)", x.call(0, 1), 0);
     }
 
-    /** Promise 7, take: "STATUS 1, 3 (none rings there).": 3, a free line, a caller, one that speaks, one at which a call knocks. */
+    /**
+     * Promise 7, take: "STATUS 1, 3 (none rings there).": 3, a free line, a caller, one that speaks, one at which
+     * a call knocks.
+     */
     private static void takeWhereNoneRings() {
         WishLine x = Check.withLines(4);
         x.wish(1, Kind.WAITING, 0, 0, 0);
@@ -327,7 +336,10 @@ public final class CallsEdgesTest {
         check.due("lineTold(0, 0)", x.lineTold(0, 0), -1);
     }
 
-    /** Promise 8, down: "the CALL in which it is as the CALLER, or SPEAKS, is ENDED, REASON 4": by the one that took it, which may stand in no row. */
+    /**
+     * Promise 8, down: "the CALL in which it is as the CALLER, or SPEAKS, is ENDED, REASON 4": by the one that
+     * took it, which may stand in no row.
+     */
     private static void downOfTheOneThatTook() {
         WishLine x = Check.withLines(3);
         x.wish(1, Kind.SHARED, 0, 2, 0);
@@ -366,7 +378,10 @@ public final class CallsEdgesTest {
         check.refused(x, "the other one", x.down(1), 3);
     }
 
-    /** Promise 13, lineTold: "0 the CALL in which it is (NONE), 1 the CALL that KNOCKS at it (NONE)": none, call 0, the last call. */
+    /**
+     * Promise 13, lineTold: "0 the CALL in which it is (NONE), 1 the CALL that KNOCKS at it (NONE)": none, call 0,
+     * the last call.
+     */
     private static void lineInACall() {
         WishLine x = knocking();
         check.due("lineTold(1, 0)", x.lineTold(1, 0), 0);
@@ -384,7 +399,10 @@ public final class CallsEdgesTest {
         check.due("lineTold(1, 1)", x.lineTold(1, 1), 59);
     }
 
-    /** Promise 13, lineTold: "2 what it has to pay in all": of all its calls, ended ones too, and it never gets less. */
+    /**
+     * Promise 13, lineTold: "2 what it has to pay in all": of all its calls, ended ones too, and it never gets
+     * less.
+     */
     private static void lineThatPays() {
         WishLine x = Check.withLines(3);
         x.dial(0, 1);
@@ -434,7 +452,10 @@ public final class CallsEdgesTest {
         check.dueCall(x, 1, 7, 0, 0, 1, 1, -1, 0, 0);
     }
 
-    /** Promise 14, call: "5 the LINE that took it, or at which it KNOCKS (NONE; of an ENDED one NONE, too, and 4 is 0)": taken by line 0 and by line 7. */
+    /**
+     * Promise 14, call: "5 the LINE that took it, or at which it KNOCKS (NONE; of an ENDED one NONE, too, and 4 is
+     * 0)": taken by line 0 and by line 7.
+     */
     private static void callThatSpeaks() {
         WishLine x = Check.withLines(8);
         x.dial(7, 0);
@@ -447,7 +468,10 @@ public final class CallsEdgesTest {
         check.dueCall(x, 1, 0, 1, 0, 1, 0, 7, 0, 0);
     }
 
-    /** Promise 14, call: "5 the LINE that took it, or at which it KNOCKS": the last line of its row, not the one that was dialled. */
+    /**
+     * Promise 14, call: "5 the LINE that took it, or at which it KNOCKS": the last line of its row, not the one
+     * that was dialled.
+     */
     private static void callThatKnocks() {
         WishLine x = Check.withLines(5);
         x.wish(1, Kind.ONWARD, 0, 2, 0);
@@ -527,7 +551,10 @@ public final class CallsEdgesTest {
         }
     }
 
-    /** Promise 16, piece: "The payer of PIECE i of a CALL. -1: none such.": the first, the eighth, and those outside. */
+    /**
+     * Promise 16, piece: "The payer of PIECE i of a CALL. -1: none such.": the first, the eighth, and those
+     * outside.
+     */
     private static void pieceOutside() {
         WishLine x = Check.withLines(8);
         for (int i = 0; i < 7; i++) {
@@ -545,7 +572,10 @@ public final class CallsEdgesTest {
         }
     }
 
-    /** Promise 17, acted: "WISH i of those that ACTED for a CALL. -1: none such, or it is not kept.": the last wish, none, and those outside. */
+    /**
+     * Promise 17, acted: "WISH i of those that ACTED for a CALL. -1: none such, or it is not kept.": the last
+     * wish, none, and those outside.
+     */
     private static void actedOutside() {
         WishLine x = Check.withLines(4);
         for (int i = 0; i < 23; i++) {
@@ -568,7 +598,10 @@ public final class CallsEdgesTest {
         }
     }
 
-    /** Promise 18, tells: "Whether a CALL TELLS its CALLER to a LINE now: 1, 0.": not before, not behind the ringing. */
+    /**
+     * Promise 18, tells: "Whether a CALL TELLS its CALLER to a LINE now: 1, 0.": not before, not behind the
+     * ringing.
+     */
     private static void tellsNow() {
         WishLine x = Check.withLines(3);
         x.wish(1, Kind.ONWARD, 0, 2, 3);
@@ -586,7 +619,10 @@ public final class CallsEdgesTest {
         check.due("ended: tells(0, 2)", x.tells(0, 2), 0);
     }
 
-    /** Promise 18, tells: "Whether a CALL TELLS its CALLER to a LINE now: 1, 0. -1: no such.": no such call or line. */
+    /**
+     * Promise 18, tells: "Whether a CALL TELLS its CALLER to a LINE now: 1, 0. -1: no such.": no such call or
+     * line.
+     */
     private static void tellsOutside() {
         WishLine x = Check.withLines(2);
         x.dial(0, 1);

@@ -164,7 +164,10 @@ public final class GoingEdgesTest {
         }
     }
 
-    /** Section 2, "Else t comes behind its ROW, and a PIECE: it is paid by s;": also of a call that is shut out there. */
+    /**
+     * Section 2, "Else t comes behind its ROW, and a PIECE: it is paid by s;": also of a call that is shut out
+     * there.
+     */
     private static void pieceBySender() {
         WishLine x = Check.withLines(3);
         x.wish(1, Kind.ONWARD, 0, 2, 0);
@@ -293,7 +296,10 @@ public final class GoingEdgesTest {
         check.dueCall(x, 0, 0, 0, 0, 1, 2, -1, 0, 0);
     }
 
-    /** Section 2, "SHUT (not HIDDEN), if its TARGET is the CALLER": a hidden with the same numbers shuts no one out. */
+    /**
+     * Section 2, "SHUT (not HIDDEN), if its TARGET is the CALLER": a hidden with the same numbers shuts no one
+     * out.
+     */
     private static void hiddenShutsNoOne() {
         WishLine x = Check.withLines(2);
         x.wish(1, Kind.HIDDEN, 0, 0, 7);
@@ -424,7 +430,10 @@ public final class GoingEdgesTest {
         check.duePieces(x, 0, 0, 0);
     }
 
-    /** Section 2, "ONWARD of NUMBER 0, or of 1 if t is not FREE or t is the CALLER": 3 to 11 do not act when a call goes. */
+    /**
+     * Section 2, "ONWARD of NUMBER 0, or of 1 if t is not FREE or t is the CALLER": 3 to 11 do not act when a call
+     * goes.
+     */
     private static void onwardsThatWaitDoNotActYet() {
         for (int number = 3; number <= 11; number++) {
             WishLine x = Check.withLines(4);
@@ -436,7 +445,10 @@ public final class GoingEdgesTest {
         }
     }
 
-    /** Section 2, "WAITING, if t is not FREE, not the CALLER, and no CALL KNOCKS at it: the CALL KNOCKS at t.": at a free line it does not act. */
+    /**
+     * Section 2, "WAITING, if t is not FREE, not the CALLER, and no CALL KNOCKS at it: the CALL KNOCKS at t.": at
+     * a free line it does not act.
+     */
     private static void waitingAtAFreeLine() {
         WishLine x = Check.withLines(3);
         x.wish(1, Kind.WAITING, 0, 0, 0);
@@ -483,7 +495,10 @@ public final class GoingEdgesTest {
         check.due("lineTold(2, 1)", x.lineTold(2, 1), 2);
     }
 
-    /** Section 2, "the CALL KNOCKS at t.": a call that was sent on there; the caller of another call that rings waits too. */
+    /**
+     * Section 2, "the CALL KNOCKS at t.": a call that was sent on there; the caller of another call that rings
+     * waits too.
+     */
     private static void waitingSentOn() {
         WishLine x = Check.withLines(4);
         x.wish(1, Kind.ONWARD, 0, 2, 0);
@@ -495,7 +510,10 @@ public final class GoingEdgesTest {
         check.duePieces(x, 1, 0, 1);
     }
 
-    /** Section 2, "If none ACTS: is t not FREE, or the CALLER, the CALL is ENDED, REASON 3;": a caller, one that rings, one that speaks. */
+    /**
+     * Section 2, "If none ACTS: is t not FREE, or the CALLER, the CALL is ENDED, REASON 3;": a caller, one that
+     * rings, one that speaks.
+     */
     private static void busyEnds() {
         WishLine x = Check.withLines(3);
         x.dial(1, 2);
@@ -539,7 +557,10 @@ public final class GoingEdgesTest {
         check.dueActed(x, 3);
     }
 
-    /** Section 2, "makes a WISH BACK to t": not by a call that is shut out, comes round, knocks, rings or is hung up. */
+    /**
+     * Section 2, "makes a WISH BACK to t": not by a call that is shut out, comes round, knocks, rings or is hung
+     * up.
+     */
     private static void backOnlyIfBusy() {
         WishLine x = withBusyLines(6);
         x.wish(0, Kind.BACK, 0, 0, 0);
@@ -568,7 +589,10 @@ public final class GoingEdgesTest {
         check.dueBacks(x, 0, 2);
     }
 
-    /** Section 2, "(unless there is one of these two LINES;": by two backs, by two calls; other lines have their own. */
+    /**
+     * Section 2, "(unless there is one of these two LINES;": by two backs, by two calls; other lines have their
+     * own.
+     */
     private static void oneBackOfTwoLines() {
         WishLine x = withBusyLines(4);
         x.wish(0, Kind.BACK, 0, 0, 0);
@@ -601,7 +625,10 @@ public final class GoingEdgesTest {
         check.dueBacks(x, 0, 2, 0, 3, 1, 2, 1, 3, 4, 2, 4, 3, 5, 2, 5, 3);
     }
 
-    /** Section 2, "if there is no room, none comes).": the ninth does not come, the call ends as others; with room again it comes. */
+    /**
+     * Section 2, "if there is no room, none comes).": the ninth does not come, the call ends as others; with room
+     * again it comes.
+     */
     private static void noRoomForABack() {
         WishLine x = withBusyLines(8);
         int[] callers = {0, 1, 4, 5};
@@ -667,7 +694,10 @@ public final class GoingEdgesTest {
         check.due("not on, but it rings already", x.call(1, 4), 6);
     }
 
-    /** Section 2, "at the TARGETS of t's SHARED WISHES": not of a target's own, nor of a line that sent it on; the target's wishes do not act. */
+    /**
+     * Section 2, "at the TARGETS of t's SHARED WISHES": not of a target's own, nor of a line that sent it on; the
+     * target's wishes do not act.
+     */
     private static void sharedOfOthers() {
         WishLine x = Check.withLines(6);
         x.wish(1, Kind.ONWARD, 0, 2, 0);
@@ -707,7 +737,10 @@ public final class GoingEdgesTest {
         check.due("call(0, 6)", x.call(0, 6), 0);
     }
 
-    /** Wishes 2 i and 2 i + 1 of line i + 1 let a call wait and send it on; the call of line 0 goes by so many lines. */
+    /**
+     * Wishes 2 i and 2 i + 1 of line i + 1 let a call wait and send it on; the call of line 0 goes by so many
+     * lines.
+     */
     private static WishLine sentOnBy(int lines) {
         WishLine x = Check.withLines(8);
         for (int i = 1; i <= 6; i++) {
@@ -726,7 +759,10 @@ public final class GoingEdgesTest {
         return x;
     }
 
-    /** Section 2, "The ACTS of a CALL: the WISHES that ACTED, in order (of 10 or more the first 10 are kept).": nine, then ten. */
+    /**
+     * Section 2, "The ACTS of a CALL: the WISHES that ACTED, in order (of 10 or more the first 10 are kept).":
+     * nine, then ten.
+     */
     private static void tenActs() {
         WishLine x = sentOnBy(4);
         check.dueCall(x, 1, 0, 2, 0, 5);
@@ -783,7 +819,10 @@ public final class GoingEdgesTest {
         }
     }
 
-    /** Section 2, "for each LINE, by numbers, that is FREE and at which a CALL KNOCKS: that CALL RINGS at it": two lines at once. */
+    /**
+     * Section 2, "for each LINE, by numbers, that is FREE and at which a CALL KNOCKS: that CALL RINGS at it": two
+     * lines at once.
+     */
     private static void knockersOfBothLines() {
         WishLine x = withBusyLines(4);
         x.wish(2, Kind.WAITING, 0, 0, 0);
@@ -823,7 +862,10 @@ public final class GoingEdgesTest {
         check.due("call(1, 6)", x.call(1, 6), 1);
     }
 
-    /** Section 2, "that is FREE and at which a CALL KNOCKS": while the line is not free it knocks on, whatever others do. */
+    /**
+     * Section 2, "that is FREE and at which a CALL KNOCKS": while the line is not free it knocks on, whatever
+     * others do.
+     */
     private static void knockerWaitsOn() {
         WishLine x = withBusyLines(6);
         x.wish(2, Kind.WAITING, 0, 0, 0);
@@ -853,7 +895,10 @@ public final class GoingEdgesTest {
         }
     }
 
-    /** Section 2, "to a LINE where it rings or KNOCKS": where it knocks; the call in which that line is tells it nothing. */
+    /**
+     * Section 2, "to a LINE where it rings or KNOCKS": where it knocks; the call in which that line is tells it
+     * nothing.
+     */
     private static void tellsWhereItKnocks() {
         WishLine x = withBusyLines(4);
         x.wish(3, Kind.WAITING, 0, 0, 0);
@@ -899,7 +944,10 @@ public final class GoingEdgesTest {
         check.due("tells(0, 1)", x.tells(0, 1), 1);
     }
 
-    /** Section 2, "unless the CALLER has a HIDDEN that is ON": of the line that rings or sends on it does not matter. */
+    /**
+     * Section 2, "unless the CALLER has a HIDDEN that is ON": of the line that rings or sends on it does not
+     * matter.
+     */
     private static void hiddenOfAnother() {
         WishLine x = Check.withLines(4);
         x.wish(1, Kind.HIDDEN, 0, 3, 0);

@@ -108,7 +108,10 @@ public final class HostEdgesTest {
         }
     }
 
-    /** Section 4, "SHEETS 0 .. 3 are rows of numbers, or missing (as all are at first): of sort 0 (bytes), 1 (shorts), 2 (ints)." */
+    /**
+     * Section 4, "SHEETS 0 .. 3 are rows of numbers, or missing (as all are at first): of sort 0 (bytes), 1
+     * (shorts), 2 (ints)."
+     */
     private static void allSheetsAreMissing() {
         WishLine x = Check.withLines(1);
         for (int sheet = 0; sheet < 4; sheet++) {
@@ -223,7 +226,10 @@ public final class HostEdgesTest {
         }
     }
 
-    /** Promise 28, cell: "Number i of a SHEET becomes v (-1000 .. 1000; of sort 0 cut to its lowest 8 bits, with sign).": the numbers. */
+    /**
+     * Promise 28, cell: "Number i of a SHEET becomes v (-1000 .. 1000; of sort 0 cut to its lowest 8 bits, with
+     * sign).": the numbers.
+     */
     private static void numbersOfACell() {
         WishLine x = new WishLine();
         for (int sort = 0; sort <= 2; sort++) {
@@ -296,7 +302,10 @@ public final class HostEdgesTest {
         }
     }
 
-    /** Promise 28, cell: "Number i of a SHEET becomes v (-1000 .. 1000; of sort 0 cut": shorts and ints are not cut. */
+    /**
+     * Promise 28, cell: "Number i of a SHEET becomes v (-1000 .. 1000; of sort 0 cut": shorts and ints are not
+     * cut.
+     */
     private static void shortsAndIntsAreNotCut() {
         WishLine x = Check.withLines(1);
         x.sheet(1, 1, 1);
@@ -319,7 +328,10 @@ public final class HostEdgesTest {
         }
     }
 
-    /** Promise 29, order: "A WISH by five numbers of a SHEET that is taken for one of a sort, from place i on, as wish() takes them: its number." */
+    /**
+     * Promise 29, order: "A WISH by five numbers of a SHEET that is taken for one of a sort, from place i on, as
+     * wish() takes them: its number."
+     */
     private static void orderAsWishTakesThem() {
         WishLine x = Check.withLines(3);
         x.wish(0, 0, 0, 0, 0);
@@ -349,7 +361,10 @@ public final class HostEdgesTest {
         check.refused(x, "order(0, 1, 36)", x.order(0, 1, 36), 12);
     }
 
-    /** Promise 29, order: "STATUS 1 (no such SHEET, sort), 2, 10, 11, 12, 3 (they tell none); these in this order.": 1. */
+    /**
+     * Promise 29, order: "STATUS 1 (no such SHEET, sort), 2, 10, 11, 12, 3 (they tell none); these in this
+     * order.": 1.
+     */
     private static void orderOfNoSheetOrSort() {
         WishLine x = Check.withLines(1);
         x.sheet(0, 0, 5);
@@ -364,7 +379,10 @@ public final class HostEdgesTest {
         }
     }
 
-    /** Promise 29, order: "STATUS 1 (no such SHEET, sort), 2, 10, 11, 12, 3 (they tell none); these in this order.": 2. */
+    /**
+     * Promise 29, order: "STATUS 1 (no such SHEET, sort), 2, 10, 11, 12, 3 (they tell none); these in this
+     * order.": 2.
+     */
     private static void orderWithoutRoom() {
         WishLine x = Check.withLines(1);
         x.sheet(0, 0, 5);
@@ -375,7 +393,10 @@ public final class HostEdgesTest {
         check.due("count(1)", x.count(1), 24);
     }
 
-    /** Promise 29, order: "STATUS 1 (no such SHEET, sort), 2, 10, 11, 12, 3 (they tell none); these in this order.": 10. */
+    /**
+     * Promise 29, order: "STATUS 1 (no such SHEET, sort), 2, 10, 11, 12, 3 (they tell none); these in this
+     * order.": 10.
+     */
     private static void orderOfAMissingSheet() {
         WishLine x = Check.withLines(1);
         x.sheet(0, 0, 5);
@@ -385,7 +406,10 @@ public final class HostEdgesTest {
         }
     }
 
-    /** Promise 29, order: "A WISH by five numbers of a SHEET that is taken for one of a sort": 11, it is of another one. */
+    /**
+     * Promise 29, order: "A WISH by five numbers of a SHEET that is taken for one of a sort": 11, it is of another
+     * one.
+     */
     private static void orderOfAnotherSort() {
         WishLine x = Check.withLines(1);
         for (int sort = 0; sort <= 2; sort++) {
@@ -402,7 +426,10 @@ public final class HostEdgesTest {
         }
     }
 
-    /** Promise 29, order: "STATUS 1 (no such SHEET, sort), 2, 10, 11, 12, 3 (they tell none); these in this order.": 12. */
+    /**
+     * Promise 29, order: "STATUS 1 (no such SHEET, sort), 2, 10, 11, 12, 3 (they tell none); these in this
+     * order.": 12.
+     */
     private static void orderOutside() {
         WishLine x = Check.withLines(1);
         x.sheet(0, 0, 7);
@@ -499,7 +526,10 @@ public final class HostEdgesTest {
         check.refused(x, "2 and 3", x.order(0, 0, 0), 2);
     }
 
-    /** Promise 30, forge: "What the host does, by what (STATUS 1: another; n or k outside -100 .. 100)": another what. */
+    /**
+     * Promise 30, forge: "What the host does, by what (STATUS 1: another; n or k outside -100 .. 100)": another
+     * what.
+     */
     private static void forgeOfAnother() {
         WishLine x = new WishLine();
         int[] none = {-1, 7, 8, MAX, MIN};
@@ -583,7 +613,10 @@ public final class HostEdgesTest {
         check.done(x, "forge(0, 0, 22)", x.forge(0, 0, 22), 0);
     }
 
-    /** Promise 30, forge: "or one under that one (also by others between)": a hidden for a wish, by a shut between; not the other way round. */
+    /**
+     * Promise 30, forge: "or one under that one (also by others between)": a hidden for a wish, by a shut between;
+     * not the other way round.
+     */
     private static void kindOfAnother() {
         WishLine x = Check.withLines(1);
         x.wish(0, Kind.HIDDEN, 0, 0, 0);
@@ -618,7 +651,10 @@ public final class HostEdgesTest {
         }
     }
 
-    /** Promise 30, forge: "2 SHEET k modulo 4 is taken for one of sort 1: 11; its number n: 10, 12; answers it.": k from -100 to 100. */
+    /**
+     * Promise 30, forge: "2 SHEET k modulo 4 is taken for one of sort 1: 11; its number n: 10, 12; answers it.": k
+     * from -100 to 100.
+     */
     private static void shortByModulo() {
         WishLine x = new WishLine();
         for (int sheet = 0; sheet < 4; sheet++) {
@@ -630,7 +666,10 @@ public final class HostEdgesTest {
         }
     }
 
-    /** Promise 30, forge: "2 SHEET k modulo 4 is taken for one of sort 1: 11;": bytes and ints are none, whatever the place. */
+    /**
+     * Promise 30, forge: "2 SHEET k modulo 4 is taken for one of sort 1: 11;": bytes and ints are none, whatever
+     * the place.
+     */
     private static void shortOfAnotherSort() {
         WishLine x = new WishLine();
         x.sheet(0, 0, 2);
@@ -689,7 +728,10 @@ public final class HostEdgesTest {
         check.done(x, "a sum that is -1", x.forge(3, 1, 0), -1);
     }
 
-    /** Promise 30, forge: "are copied to a row of 6 from place n on": three stand there from place 3 on, four do not from place 4 on. */
+    /**
+     * Promise 30, forge: "are copied to a row of 6 from place n on": three stand there from place 3 on, four do
+     * not from place 4 on.
+     */
     private static void bytesBehindTheRow() {
         WishLine x = new WishLine();
         x.sheet(0, 0, 40);
@@ -748,7 +790,10 @@ public final class HostEdgesTest {
         }
     }
 
-    /** Promise 30, forge: "are copied to a row of 6 from place n on: 10, 12": 10, it is missing, whatever the place. */
+    /**
+     * Promise 30, forge: "are copied to a row of 6 from place n on: 10, 12": 10, it is missing, whatever the
+     * place.
+     */
     private static void bytesOfAMissingSheet() {
         WishLine x = new WishLine();
         x.sheet(1, 0, 9);
@@ -771,7 +816,10 @@ public final class HostEdgesTest {
         }
     }
 
-    /** Promise 30, forge: "4 WISH k modulo 24 is put into a row that takes SHUT and HIDDEN ones: 14; answers its KIND (0: there is no such)." */
+    /**
+     * Promise 30, forge: "4 WISH k modulo 24 is put into a row that takes SHUT and HIDDEN ones: 14; answers its
+     * KIND (0: there is no such)."
+     */
     private static void rowOfShutOnes() {
         WishLine x = Check.withLines(1);
         for (int kind = 0; kind < 8; kind++) {
@@ -825,7 +873,10 @@ public final class HostEdgesTest {
         check.refused(x, "forge(5, 0, 100)", x.forge(5, 0, 100), 15);
     }
 
-    /** Promise 30, forge: "6 a failure is thrown: n modulo 2 is 0: none is there: 10; 1: one that is caught at once; answers 1.": also below 0. */
+    /**
+     * Promise 30, forge: "6 a failure is thrown: n modulo 2 is 0: none is there: 10; 1: one that is caught at
+     * once; answers 1.": also below 0.
+     */
     private static void failures() {
         WishLine x = new WishLine();
         for (int n = -100; n <= 100; n += 4) {

@@ -72,7 +72,10 @@ public final class ImageEdgesTest {
         return x;
     }
 
-    /** Promise 10, image: "All (but SHEETS, THE TRACE, THE CASE, how often it was restored) is kept as an IMAGE, in place of one before: 1." */
+    /**
+     * Promise 10, image: "All (but SHEETS, THE TRACE, THE CASE, how often it was restored) is kept as an IMAGE, in
+     * place of one before: 1."
+     */
     private static void imageKeepsAll() {
         int[] before = AllAnswers.of(ImageEdgesTest::busyHouse);
         int[] then = AllAnswers.of(() -> {
@@ -109,7 +112,10 @@ public final class ImageEdgesTest {
         return x;
     }
 
-    /** Promise 10, image: "All (but SHEETS, THE TRACE, THE CASE, how often it was restored) is kept": all rooms are full. */
+    /**
+     * Promise 10, image: "All (but SHEETS, THE TRACE, THE CASE, how often it was restored) is kept": all rooms are
+     * full.
+     */
     private static void imageOfAFullHouse() {
         int[] before = AllAnswers.of(ImageEdgesTest::fullHouse);
         int[] then = AllAnswers.of(() -> {
@@ -146,7 +152,10 @@ public final class ImageEdgesTest {
         check.done(x, "restore() again", x.restore(), 1);
     }
 
-    /** Promise 10, image: "All (but SHEETS, THE TRACE, THE CASE, how often it was restored)": sheets stay as they are. */
+    /**
+     * Promise 10, image: "All (but SHEETS, THE TRACE, THE CASE, how often it was restored)": sheets stay as they
+     * are.
+     */
     private static void imageKeepsNoSheets() {
         WishLine x = Check.withLines(1);
         x.sheet(0, 1, 2);
@@ -186,7 +195,10 @@ public final class ImageEdgesTest {
         check.dueCase(x, 1001, 2010);
     }
 
-    /** Promise 10, image: "how often it was restored": an image that is taken between does not begin the count anew. */
+    /**
+     * Promise 10, image: "how often it was restored": an image that is taken between does not begin the count
+     * anew.
+     */
     private static void imageKeepsNoCount() {
         WishLine x = new WishLine();
         for (int i = 0; i < 10; i++) {
@@ -206,7 +218,10 @@ public final class ImageEdgesTest {
         check.done(x, "restore()", x.restore(), 0);
     }
 
-    /** Promise 11, restore: "STATUS 2 (this was done 10 times), 3 (there is none).": 2, the tenth is done, the eleventh is not. */
+    /**
+     * Promise 11, restore: "STATUS 2 (this was done 10 times), 3 (there is none).": 2, the tenth is done, the
+     * eleventh is not.
+     */
     private static void restoreTenTimes() {
         WishLine x = Check.withLines(1);
         x.tick();
@@ -236,7 +251,10 @@ public final class ImageEdgesTest {
         check.refused(x, "the 11th restore()", x.restore(), 2);
     }
 
-    /** Promise 11, restore: "All is as the IMAGE has it, which stays: THE TICK.": what comes behind it does not change the image. */
+    /**
+     * Promise 11, restore: "All is as the IMAGE has it, which stays: THE TICK.": what comes behind it does not
+     * change the image.
+     */
     private static void imageStays() {
         WishLine x = Check.withLines(3);
         x.wish(1, Kind.ONWARD, 2, 2, 3);

@@ -70,7 +70,10 @@ public final class JudgeEdgesTest {
         check.end();
     }
 
-    /** Section 3, "PROMISES of a LINE a and a LINE b: 0 they never SPEAK in one CALL (one as the CALLER).": either may be the caller. */
+    /**
+     * Section 3, "PROMISES of a LINE a and a LINE b: 0 they never SPEAK in one CALL (one as the CALLER).": either
+     * may be the caller.
+     */
     private static void speakOneAsTheCaller() {
         WishLine x = Check.withLines(3);
         x.wish(1, Kind.SHUT, 0, 0, 3);
@@ -92,7 +95,10 @@ public final class JudgeEdgesTest {
         check.done(x, "judge(0, 1, 1, 3, 3)", x.judge(0, 1, 1, 3, 3), 0);
     }
 
-    /** Section 3, "1 a never pays.": as the caller, as one that sends on, as one with a paid wish; never as one that only takes. */
+    /**
+     * Section 3, "1 a never pays.": as the caller, as one that sends on, as one with a paid wish; never as one
+     * that only takes.
+     */
     private static void paysForAnother() {
         WishLine x = Check.withLines(3);
         x.wish(1, Kind.ONWARD, 0, 2, 0);
@@ -180,7 +186,10 @@ public final class JudgeEdgesTest {
         check.done(x, "judge(1, 0, 0, 3, 3)", x.judge(1, 0, 0, 3, 3), 3);
     }
 
-    /** Section 3, "THE JUDGE begins with these LINES, WISHES": on or not as they are, with the ranks that they have. */
+    /**
+     * Section 3, "THE JUDGE begins with these LINES, WISHES": on or not as they are, with the ranks that they
+     * have.
+     */
     private static void beginsWithTheseWishes() {
         WishLine x = Check.withLines(3);
         x.wish(1, Kind.SHUT, 5, 0, 1);
@@ -205,7 +214,10 @@ public final class JudgeEdgesTest {
         check.dueCase(x, 1001, 2070);
     }
 
-    /** Section 3, "and goes through what people on a set of LINES can do": a and b need not be of it, and then do nothing. */
+    /**
+     * Section 3, "and goes through what people on a set of LINES can do": a and b need not be of it, and then do
+     * nothing.
+     */
     private static void onlyPeopleOfTheSetAct() {
         WishLine x = Check.withLines(4);
         check.done(x, "neither is of the set", x.judge(0, 0, 1, 12, 3), 0);
@@ -227,7 +239,10 @@ public final class JudgeEdgesTest {
         check.done(x, "judge(2, 0, 1, 5, 3)", x.judge(2, 0, 1, 5, 3), 0);
     }
 
-    /** Section 3, "acts 1000 + 10 x + y: x DIALS y (both of the set, unlike); 2000 + 10 x: x takes; 3000 + 10 x: x hangs up; 4000: a TICK.": of line 7. */
+    /**
+     * Section 3, "acts 1000 + 10 x + y: x DIALS y (both of the set, unlike); 2000 + 10 x: x takes; 3000 + 10 x: x
+     * hangs up; 4000: a TICK.": of line 7.
+     */
     private static void greatestActs() {
         WishLine x = Check.withLines(8);
         x.wish(7, Kind.PAID, 0, 0, 0);
@@ -248,7 +263,10 @@ public final class JudgeEdgesTest {
         check.dueCase(x, 1001, 2020);
     }
 
-    /** Section 3, "A CASE: acts, one after the other, none of which is refused, behind the last of which the PROMISE is broken.": no taking where none rings. */
+    /**
+     * Section 3, "A CASE: acts, one after the other, none of which is refused, behind the last of which the
+     * PROMISE is broken.": no taking where none rings.
+     */
     private static void noActIsRefused() {
         WishLine x = Check.withLines(3);
         x.wish(1, Kind.ONWARD, 0, 2, 0);
@@ -299,7 +317,10 @@ public final class JudgeEdgesTest {
         check.dueCase(x, 1012, 2020);
     }
 
-    /** Section 3, "of these the one with the lesser act at the first place where they differ.": the second and the third act. */
+    /**
+     * Section 3, "of these the one with the lesser act at the first place where they differ.": the second and the
+     * third act.
+     */
     private static void lesserActAtALaterPlace() {
         WishLine x = Check.withLines(3);
         x.wish(1, Kind.SHARED, 0, 2, 0);
@@ -350,7 +371,10 @@ public final class JudgeEdgesTest {
         check.dueCase(x);
     }
 
-    /** Promise 20, judge: "on a set of LINES (bits of LINES that there are, 3 at most, none is fine)": one alone can dial no one. */
+    /**
+     * Promise 20, judge: "on a set of LINES (bits of LINES that there are, 3 at most, none is fine)": one alone
+     * can dial no one.
+     */
     private static void setOfOneLine() {
         WishLine x = Check.withLines(8);
         for (int line = 0; line < 8; line++) {
@@ -382,7 +406,10 @@ public final class JudgeEdgesTest {
         }
     }
 
-    /** Promise 20, judge: "with depth acts at most (1 .. 3): how many acts THE CASE has; 0: there is none. STATUS 1." */
+    /**
+     * Promise 20, judge: "with depth acts at most (1 .. 3): how many acts THE CASE has; 0: there is none. STATUS
+     * 1."
+     */
     private static void depths() {
         WishLine x = Check.withLines(2);
         int[] acts = {2, 3, 1};
@@ -406,7 +433,10 @@ public final class JudgeEdgesTest {
         }
     }
 
-    /** Promise 21, actOf: "Act i of THE CASE of the latest judge() that was not refused. -1: none such.": there was none yet. */
+    /**
+     * Promise 21, actOf: "Act i of THE CASE of the latest judge() that was not refused. -1: none such.": there was
+     * none yet.
+     */
     private static void noCaseYet() {
         WishLine x = Check.withLines(2);
         check.dueCase(x);
@@ -414,7 +444,10 @@ public final class JudgeEdgesTest {
         check.dueCase(x);
     }
 
-    /** Promise 21, actOf: "Act i of THE CASE of the latest judge() that was not refused.": one without a case leaves none. */
+    /**
+     * Promise 21, actOf: "Act i of THE CASE of the latest judge() that was not refused.": one without a case
+     * leaves none.
+     */
     private static void caseOfNothing() {
         WishLine x = Check.withLines(2);
         x.judge(1, 0, 0, 3, 3);
@@ -425,7 +458,10 @@ public final class JudgeEdgesTest {
         check.dueCase(x);
     }
 
-    /** Promise 21, actOf: "of the latest judge() that was not refused.": refused ones, alone() and peace() leave it. */
+    /**
+     * Promise 21, actOf: "of the latest judge() that was not refused.": refused ones, alone() and peace() leave
+     * it.
+     */
     private static void caseOfARefusedJudge() {
         WishLine x = Check.withLines(5);
         x.wish(0, Kind.SHUT, 0, 0, 0);
@@ -490,7 +526,10 @@ public final class JudgeEdgesTest {
         check.dueSame("behind judge(), alone(), peace()", then, before);
     }
 
-    /** Promise 22, alone: "-1: none, or no such.": numbers that are none such; it is a question, so the status stays. */
+    /**
+     * Promise 22, alone: "-1: none, or no such.": numbers that are none such; it is a question, so the status
+     * stays.
+     */
     private static void aloneRefused() {
         WishLine x = Check.withLines(5);
         x.wish(4, Kind.SHUT, 0, 4, 0);
@@ -557,7 +596,10 @@ public final class JudgeEdgesTest {
         check.due("judge(2, 0, 2, 3, 3)", x.judge(2, 0, 2, 3, 3), 0);
     }
 
-    /** Promise 22, alone: "if it is ON and all others of these KINDS are not": a case that needs two has no single wish. */
+    /**
+     * Promise 22, alone: "if it is ON and all others of these KINDS are not": a case that needs two has no single
+     * wish.
+     */
     private static void aloneWithoutTheOthers() {
         WishLine x = Check.withLines(4);
         x.wish(1, Kind.ONWARD, 0, 2, 0);
@@ -572,7 +614,10 @@ public final class JudgeEdgesTest {
         check.due("wishTold(2, 5)", x.wishTold(2, 5), 1);
     }
 
-    /** Promise 22, alone: "(those of other KINDS as they are).": a hidden that is on hides, one that is not does not. */
+    /**
+     * Promise 22, alone: "(those of other KINDS as they are).": a hidden that is on hides, one that is not does
+     * not.
+     */
     private static void aloneWithOtherKindsAsTheyAre() {
         WishLine x = Check.withLines(4);
         x.wish(1, Kind.ONWARD, 0, 2, 0);
@@ -604,7 +649,10 @@ public final class JudgeEdgesTest {
         check.due("three lines", x.alone(2, 0, 2, 7, 3), 0);
     }
 
-    /** Promise 23, peace: "-1: none, or no such.": numbers that are none such; it is a question, so the status stays. */
+    /**
+     * Promise 23, peace: "-1: none, or no such.": numbers that are none such; it is a question, so the status
+     * stays.
+     */
     private static void peaceRefused() {
         WishLine x = Check.withLines(5);
         x.wish(0, Kind.WISH, 0, 0, 0);
@@ -628,7 +676,10 @@ public final class JudgeEdgesTest {
         }
     }
 
-    /** Promise 23, peace: "The least RANK 0 .. 9 that a WISH (of any KIND) can have, others as they are, such that there is no CASE of depth acts at most.": 0. */
+    /**
+     * Promise 23, peace: "The least RANK 0 .. 9 that a WISH (of any KIND) can have, others as they are, such that
+     * there is no CASE of depth acts at most.": 0.
+     */
     private static void peaceAtTheFirstRank() {
         WishLine x = Check.withLines(3);
         x.wish(1, Kind.ONWARD, 1, 2, 0);
@@ -671,7 +722,10 @@ public final class JudgeEdgesTest {
         check.due("it does not matter", x.peace(0, 2, 0, 1, 3, 3), 0);
     }
 
-    /** Promise 23, peace: "that a WISH (of any KIND) can have, others as they are": of kinds that never act each rank is like another. */
+    /**
+     * Promise 23, peace: "that a WISH (of any KIND) can have, others as they are": of kinds that never act each
+     * rank is like another.
+     */
     private static void peaceOfAnyKind() {
         for (int kind = 0; kind < 8; kind++) {
             WishLine x = Check.withLines(3);
@@ -695,7 +749,10 @@ public final class JudgeEdgesTest {
         check.due("an onward that is not on", x.peace(0, 2, 0, 2, 3, 3), 0);
     }
 
-    /** Promise 23, peace: "such that there is no CASE of depth acts at most. -1: none, or no such.": as deep as told. */
+    /**
+     * Promise 23, peace: "such that there is no CASE of depth acts at most. -1: none, or no such.": as deep as
+     * told.
+     */
     private static void peaceByDepth() {
         WishLine x = Check.withLines(3);
         x.wish(1, Kind.ONWARD, 0, 2, 4);

@@ -83,7 +83,10 @@ public final class RefusedEdgesTest {
         return x;
     }
 
-    /** Section 4, "1 a number is none such or outside what is told;" with "Such calls answer -1 and change nothing else.": of each call. */
+    /**
+     * Section 4, "1 a number is none such or outside what is told;" with "Such calls answer -1 and change nothing
+     * else.": of each call.
+     */
     private static void noneSuch() {
         refuses(1, "wish(7, 0, 0, 0, 0)", x -> x.wish(7, 0, 0, 0, 0));
         refuses(1, "wish(0, 8, 0, 0, 0)", x -> x.wish(0, 8, 0, 0, 0));
@@ -193,7 +196,10 @@ public final class RefusedEdgesTest {
         tryAll(RefusedEdgesTest::house);
     }
 
-    /** Promise 11, restore: "STATUS 2 (this was done 10 times), 3 (there is none)." with "Such calls answer -1 and change nothing else." */
+    /**
+     * Promise 11, restore: "STATUS 2 (this was done 10 times), 3 (there is none)." with "Such calls answer -1 and
+     * change nothing else."
+     */
     private static void onlyTenRestores() {
         refuses(2, "the 11th restore()", x -> x.restore());
         tryAll(() -> {
@@ -207,7 +213,10 @@ public final class RefusedEdgesTest {
         });
     }
 
-    /** Promise 9, tick: "STATUS 2 (it would be above 1000)." with "Such calls answer -1 and change nothing else.": a call that speaks costs no more. */
+    /**
+     * Promise 9, tick: "STATUS 2 (it would be above 1000)." with "Such calls answer -1 and change nothing else.":
+     * a call that speaks costs no more.
+     */
     private static void noTickAboveTheLast() {
         refuses(2, "the 1001st tick()", x -> x.tick());
         tryAll(() -> {

@@ -65,7 +65,10 @@ public final class TickEdgesTest {
         check.due("count(3)", x.count(3), 1000);
     }
 
-    /** Section 2, "(a) Each CALL that SPEAKS, by numbers: each of its PIECES costs its payer 1.": not one that rings, knocks or is ended. */
+    /**
+     * Section 2, "(a) Each CALL that SPEAKS, by numbers: each of its PIECES costs its payer 1.": not one that
+     * rings, knocks or is ended.
+     */
     private static void onlySpeakersCost() {
         WishLine x = Check.withLines(6);
         x.wish(1, Kind.WAITING, 0, 0, 0);
@@ -107,7 +110,10 @@ public final class TickEdgesTest {
         check.due("lineTold(3, 2)", x.lineTold(3, 2), 0);
     }
 
-    /** Section 2, "A TICK: THE TICK is one more. (a) Each CALL that SPEAKS": a call that only begins in (c) costs nothing yet. */
+    /**
+     * Section 2, "A TICK: THE TICK is one more. (a) Each CALL that SPEAKS": a call that only begins in (c) costs
+     * nothing yet.
+     */
     private static void costComesBeforeAllElse() {
         WishLine x = Check.withLines(3);
         x.wish(0, Kind.BACK, 0, 0, 0);
@@ -122,7 +128,10 @@ public final class TickEdgesTest {
         check.due("lineTold(0, 2)", x.lineTold(0, 2), 1);
     }
 
-    /** Section 2, "(b) Each CALL that RINGS as its turn comes, by numbers: it has rung one TICK more;": one that speaks or knocks has not. */
+    /**
+     * Section 2, "(b) Each CALL that RINGS as its turn comes, by numbers: it has rung one TICK more;": one that
+     * speaks or knocks has not.
+     */
     private static void onlyRingersGetOn() {
         WishLine x = Check.withLines(6);
         x.wish(1, Kind.WAITING, 0, 0, 0);
@@ -180,7 +189,10 @@ public final class TickEdgesTest {
         check.dueActed(x, 0);
     }
 
-    /** Section 2, "the first such in ORDER ACTS": by rank, of like ranks by number; a SHUT of a lesser rank does not matter. */
+    /**
+     * Section 2, "the first such in ORDER ACTS": by rank, of like ranks by number; a SHUT of a lesser rank does
+     * not matter.
+     */
     private static void firstOnwardInOrder() {
         WishLine x = Check.withLines(6);
         x.wish(1, Kind.SHUT, 0, 5, 3);
@@ -212,7 +224,10 @@ public final class TickEdgesTest {
         check.dueCall(x, 0, 0, 0, 0, 2, 8, -1, 0, 1);
     }
 
-    /** Section 2, "no LINE rings there any more, and it GOES to the TARGET, coming from that LINE.": also to a line that rang with it. */
+    /**
+     * Section 2, "no LINE rings there any more, and it GOES to the TARGET, coming from that LINE.": also to a line
+     * that rang with it.
+     */
     private static void noLineRingsThereAnyMore() {
         WishLine x = Check.withLines(4);
         x.wish(1, Kind.SHARED, 0, 2, 0);
@@ -334,7 +349,10 @@ public final class TickEdgesTest {
         check.dueCall(x, 1, 0, 3, 3, 2, 0, -1, 1, 1);
     }
 
-    /** Section 2, "(b) Each CALL that RINGS as its turn comes": one that a lesser call lets ring in this tick has rung 1. */
+    /**
+     * Section 2, "(b) Each CALL that RINGS as its turn comes": one that a lesser call lets ring in this tick has
+     * rung 1.
+     */
     private static void turnThatComesInTime() {
         WishLine x = Check.withLines(4);
         x.wish(1, Kind.WAITING, 0, 0, 0);
@@ -348,7 +366,10 @@ public final class TickEdgesTest {
         check.dueCall(x, 1, 3, 0, 0, 1, 2, -1, 1, 1);
     }
 
-    /** Section 2, "(b) Each CALL that RINGS as its turn comes": one that a greater call lets ring has had its turn, and has rung 0. */
+    /**
+     * Section 2, "(b) Each CALL that RINGS as its turn comes": one that a greater call lets ring has had its turn,
+     * and has rung 0.
+     */
     private static void turnThatIsOver() {
         WishLine x = Check.withLines(6);
         x.wish(1, Kind.WAITING, 0, 0, 0);
@@ -542,7 +563,10 @@ public final class TickEdgesTest {
         check.dueActed(x, 2, 2);
     }
 
-    /** Section 2, "it goes, and a CALL of the first LINE is DIALLED": it goes also if that call is shut out, and comes again only if it ends busy. */
+    /**
+     * Section 2, "it goes, and a CALL of the first LINE is DIALLED": it goes also if that call is shut out, and
+     * comes again only if it ends busy.
+     */
     private static void backThatIsShutOut() {
         WishLine x = Check.withLines(4);
         x.wish(0, Kind.BACK, 0, 0, 0);
@@ -564,7 +588,10 @@ public final class TickEdgesTest {
         check.dueBacks(x, 0, 3);
     }
 
-    /** Promise 19, backs: "Of the i-th WISH BACK: 0 the first LINE, 1 the second one. -1: none such.": the first and the eighth. */
+    /**
+     * Promise 19, backs: "Of the i-th WISH BACK: 0 the first LINE, 1 the second one. -1: none such.": the first
+     * and the eighth.
+     */
     private static void toldOfBacks() {
         WishLine x = Check.withLines(8);
         for (int line = 0; line < 8; line++) {

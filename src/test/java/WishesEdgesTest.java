@@ -281,7 +281,10 @@ public final class WishesEdgesTest {
         }
     }
 
-    /** Promise 3, wish: "A WISH of a LINE: its number.": the 25th has no room, "STATUS 1 (also: an ONWARD whose NUMBER is above 11, or 2), 2." */
+    /**
+     * Promise 3, wish: "A WISH of a LINE: its number.": the 25th has no room, "STATUS 1 (also: an ONWARD whose
+     * NUMBER is above 11, or 2), 2."
+     */
     private static void noRoomForWishes() {
         WishLine x = Check.withLines(2);
         for (int i = 0; i < 24; i++) {
@@ -388,7 +391,10 @@ public final class WishesEdgesTest {
         check.dueBacks(x);
     }
 
-    /** Terms, "1 ONWARD, under WISH (NUMBER 0 always, 1 if busy, 2 + n (n 1 .. 9) if not taken in n TICKS).": 0 and 1. */
+    /**
+     * Terms, "1 ONWARD, under WISH (NUMBER 0 always, 1 if busy, 2 + n (n 1 .. 9) if not taken in n TICKS).": 0 and
+     * 1.
+     */
     private static void onwardAlways() {
         WishLine x = Check.withLines(4);
         x.wish(1, Kind.ONWARD, 0, 2, 0);
@@ -402,7 +408,10 @@ public final class WishesEdgesTest {
         check.dueRow(y, 1, 1, 2);
     }
 
-    /** Terms, "1 ONWARD, under WISH (NUMBER 0 always, 1 if busy, 2 + n (n 1 .. 9) if not taken in n TICKS).": each n. */
+    /**
+     * Terms, "1 ONWARD, under WISH (NUMBER 0 always, 1 if busy, 2 + n (n 1 .. 9) if not taken in n TICKS).": each
+     * n.
+     */
     private static void onwardAfterEachTime() {
         for (int n = 1; n <= 9; n++) {
             WishLine x = Check.withLines(3);
@@ -502,7 +511,10 @@ public final class WishesEdgesTest {
         check.due("lineTold(1, 5)", x.lineTold(1, 5), -1);
     }
 
-    /** Terms, "The ORDER of a LINE's WISHES that are ON: by RANK, the least first, of like ones by numbers.": all 24. */
+    /**
+     * Terms, "The ORDER of a LINE's WISHES that are ON: by RANK, the least first, of like ones by numbers.": all
+     * 24.
+     */
     private static void orderOfTwentyFour() {
         WishLine x = Check.withLines(1);
         for (int i = 0; i < 24; i++) {
@@ -548,7 +560,10 @@ public final class WishesEdgesTest {
         check.due("the third", x.lineTold(0, 7), 3);
     }
 
-    /** Promise 12, wishTold: "Of a WISH: 0 OWNER, 1 KIND, 2 RANK, 3 TARGET, 4 NUMBER, 5 whether it is ON. -1: no such." */
+    /**
+     * Promise 12, wishTold: "Of a WISH: 0 OWNER, 1 KIND, 2 RANK, 3 TARGET, 4 NUMBER, 5 whether it is ON. -1: no
+     * such."
+     */
     private static void toldOfAWish() {
         WishLine x = Check.withLines(3);
         x.wish(2, Kind.SHUT, 9, 1, 31);
