@@ -51,6 +51,7 @@ public final class GoingEdgesTest {
         elevenActs();
         knockerRingsBehindDown();
         knockersOfBothLines();
+        knockersOfTheFirstAndTheLastLine();
         knockerRingsBehindTake();
         knockerRingsAtNoOther();
         knockerWaitsOn();
@@ -833,6 +834,22 @@ public final class GoingEdgesTest {
         check.dueCall(x, 1, 0, 0, 0, 1, 8, -1, 0, 1);
         check.dueCall(x, 2, 1, 0, 0, 1, 4, -1, 0, 1);
         check.due("count(5)", x.count(5), 2);
+    }
+
+    /** Section 2, "for each LINE, by numbers, that is FREE": line 0 and line 7. */
+    private static void knockersOfTheFirstAndTheLastLine() {
+        WishLine x = Check.withLines(8);
+        x.wish(0, Kind.WAITING, 0, 0, 0);
+        x.wish(7, Kind.WAITING, 0, 0, 0);
+        x.dial(0, 7);
+        x.take(7);
+        x.dial(1, 7);
+        x.dial(2, 0);
+        check.due("lineTold(0, 1)", x.lineTold(0, 1), 2);
+        check.due("lineTold(7, 1)", x.lineTold(7, 1), 1);
+        x.down(7);
+        check.dueCall(x, 1, 1, 0, 0, 1, 128, -1, 0, 1);
+        check.dueCall(x, 2, 2, 0, 0, 1, 1, -1, 0, 1);
     }
 
     /** Section 2, "At the end of each dial(), take(), down()": behind take(), at a line that shared the ringing. */

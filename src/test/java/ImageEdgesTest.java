@@ -6,6 +6,9 @@ public final class ImageEdgesTest {
         imageOfAnEmptyHouse();
         imageKeepsAll();
         imageOfAFullHouse();
+        imageOfBacks();
+        imageOfActs();
+        callsAreNewAgain();
         imageInPlaceOfOneBefore();
         imageKeepsNoSheets();
         imageKeepsNoTrace();
@@ -136,6 +139,90 @@ public final class ImageEdgesTest {
         for (int what = 0; what < 6; what++) {
             check.due("count(" + what + ")", x.count(what), full[what]);
         }
+    }
+
+    /** Promise 11, restore: "All is as the IMAGE has it": the wishes back, though others stand in their places now. */
+    private static void imageOfBacks() {
+        WishLine x = Check.withLines(8);
+        for (int line = 0; line < 8; line++) {
+            x.wish(line, Kind.BACK, 0, 0, 0);
+        }
+        x.dial(2, 3);
+        x.take(3);
+        x.dial(0, 2);
+        x.dial(1, 3);
+        x.dial(0, 3);
+        x.image();
+        x.down(2);
+        x.tick();
+        x.down(0);
+        x.down(1);
+        x.tick();
+        x.down(0);
+        for (int line = 7; line >= 0; line--) {
+            x.dial(line, line);
+        }
+        check.dueBacks(x, 7, 7, 6, 6, 5, 5, 4, 4, 3, 3, 2, 2, 1, 1, 0, 0);
+        x.restore();
+        check.dueBacks(x, 0, 2, 1, 3, 0, 3);
+    }
+
+    /** Promise 11, restore: "All is as the IMAGE has it": another wish acts now, at the place of one that acted behind the image. */
+    private static void imageOfActs() {
+        WishLine x = Check.withLines(5);
+        x.wish(3, Kind.WISH, 0, 0, 0);
+        x.wish(1, Kind.ONWARD, 0, 2, 3);
+        x.wish(1, Kind.ONWARD, 1, 3, 3);
+        x.dial(0, 1);
+        x.image();
+        x.tick();
+        check.dueActed(x, 0, 1);
+        check.dueRow(x, 0, 1, 2);
+        x.restore();
+        check.dueActed(x, 0);
+        check.dueRow(x, 0, 1);
+        x.on(1, false);
+        x.tick();
+        check.dueActed(x, 0, 2);
+        check.dueRow(x, 0, 1, 3);
+        check.duePieces(x, 0, 0, 1);
+    }
+
+    /** Promise 11, restore: "All is as the IMAGE has it": a call that comes then is new, whatever one of its number was before. */
+    private static void callsAreNewAgain() {
+        WishLine x = Check.withLines(4);
+        x.wish(1, Kind.ONWARD, 0, 2, 0);
+        x.wish(2, Kind.ONWARD, 0, 3, 4);
+        x.wish(3, Kind.WISH, 0, 0, 0);
+        x.wish(2, Kind.ONWARD, 0, 3, 0);
+        x.on(3, false);
+        x.image();
+        x.dial(0, 1);
+        x.tick();
+        x.tick();
+        x.tick();
+        x.take(3);
+        x.down(0);
+        check.dueCall(x, 0, 0, 3, 4, 3, 0, -1, 1, 2);
+        x.restore();
+        check.dueCall(x, 0, -1);
+        x.on(0, false);
+        x.dial(3, 1);
+        check.dueCall(x, 0, 3, 0, 0, 1, 2, -1, 0, 0);
+        check.dueRow(x, 0, 1);
+        check.duePieces(x, 0, 3);
+        check.dueActed(x, 0);
+        x.restore();
+        x.dial(1, 0);
+        x.take(0);
+        x.restore();
+        x.dial(3, 3);
+        check.dueCall(x, 0, 3, 3, 3, 1, 0, -1, 0, 0);
+        x.restore();
+        x.on(3, true);
+        x.dial(0, 2);
+        check.dueCall(x, 0, 0, 0, 0, 2, 8, -1, 0, 1);
+        check.dueActed(x, 0, 3);
     }
 
     /** Promise 10, image: "is kept as an IMAGE, in place of one before: 1.": the one before is gone. */

@@ -32,6 +32,7 @@ public final class JudgeEdgesTest {
         takenByTheSet();
         noActIsRefused();
         brokenBehindTheLast();
+        knockersRingInACase();
         fewestActs();
         lesserActFirst();
         lesserActAtALaterPlace();
@@ -287,6 +288,21 @@ public final class JudgeEdgesTest {
         WishLine y = Check.withLines(3);
         y.wish(1, Kind.ONWARD, 0, 0, 0);
         check.done(y, "a call that came round rings nowhere", y.judge(2, 0, 1, 3, 3), 0);
+    }
+
+    /**
+     * Section 3, "A CASE: acts, one after the other": a line shuts 2 out but lets it knock while it is busy; the tick
+     * frees the line, so that the call rings there and is sent on in the same tick.
+     */
+    private static void knockersRingInACase() {
+        WishLine x = Check.withLines(4);
+        x.wish(1, Kind.WAITING, 0, 0, 0);
+        x.wish(1, Kind.SHUT, 1, 2, 3);
+        x.wish(1, Kind.ONWARD, 2, 3, 3);
+        x.wish(3, Kind.WAITING, 0, 0, 0);
+        check.done(x, "judge(2, 2, 3, 7, 2)", x.judge(2, 2, 3, 7, 2), 0);
+        check.done(x, "judge(2, 2, 3, 7, 3)", x.judge(2, 2, 3, 7, 3), 3);
+        check.dueCase(x, 1001, 1021, 4000);
     }
 
     /** Section 3, "THE CASE: the one of the fewest acts": before one of more acts whose first act is lesser. */
