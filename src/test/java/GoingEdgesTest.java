@@ -39,6 +39,7 @@ public final class GoingEdgesTest {
         backOnlyIfBusy();
         backToTheLastLine();
         oneBackOfTwoLines();
+        backTheOtherWayRound();
         eightBacks();
         noRoomForABack();
         sharedThatIsFree();
@@ -610,6 +611,23 @@ public final class GoingEdgesTest {
         x.dial(0, 3);
         x.dial(0, 0);
         check.dueBacks(x, 0, 2, 0, 3, 1, 2, 0, 0);
+    }
+
+    /** Section 2, "(unless there is one of these two LINES;": one of the same lines the other way round is another one. */
+    private static void backTheOtherWayRound() {
+        WishLine x = Check.withLines(4);
+        x.wish(0, Kind.BACK, 0, 0, 0);
+        x.wish(1, Kind.BACK, 0, 0, 0);
+        x.dial(1, 2);
+        x.dial(0, 1);
+        x.down(1);
+        x.dial(0, 3);
+        x.dial(1, 0);
+        check.dueBacks(x, 0, 1, 1, 0);
+        x.down(0);
+        x.tick();
+        check.dueCall(x, 4, 0, 0, 0, 1, 2, -1, 0, 0);
+        check.dueBacks(x, 1, 0);
     }
 
     /** Section 2, "8 at most there are;": the eighth comes. */

@@ -223,6 +223,13 @@ public final class ImageEdgesTest {
         x.dial(0, 2);
         check.dueCall(x, 0, 0, 0, 0, 2, 8, -1, 0, 1);
         check.dueActed(x, 0, 3);
+        x.tick();
+        x.restore();
+        x.dial(3, 3);
+        check.dueCall(x, 0, 3, 3, 3, 1, 0, -1, 0, 0);
+        x.restore();
+        x.dial(0, 1);
+        check.dueActed(x, 0, 0);
     }
 
     /** Promise 10, image: "is kept as an IMAGE, in place of one before: 1.": the one before is gone. */
